@@ -478,7 +478,7 @@ public final class ZRoutines {
         }
     }
 
-    /** Runs routines. Each operation answers its fault, and changes nothing if it has one. */
+    /** Runs routines. Each operation answers its fault, and leaves stacks and locals alone if it has one. */
     private static final class Machine {
         private final Program program;
         private final UserStacks userStacks;

@@ -234,5 +234,10 @@ public final class FaultTest {
         CHECK.dueTold("full", z, 3, 8, many, 0, 1, 121, 0, 1);
         CHECK.due("full again, and no sooner", z.run(many, 2000), Bodies.FULL);
         CHECK.due("full again, and no sooner", z.told(5), 121);
+        int later = Bodies.make(z, 0, 9, 1, 0, 18, 0, 0);
+        CHECK.due("a fault at another place", z.run(later, 9), Bodies.UNDER);
+        CHECK.dueTold("a fault at another place", z, 3, 1, later, 1, 1, 2, 0, 1);
+        z.run(clean, 9);
+        CHECK.dueTold("nothing of it is told of a run without one", z, 1, 0, 0, 0, 0, 2, 0, 1);
     }
 }

@@ -41,6 +41,11 @@ public final class InstructionTest {
                 CHECK.due(y + " below " + x, reckoned(19, y, x), y < x ? 1 : 0);
             }
         }
+        int[] twos = {3, 4, 5, 6, 7, 19};
+        for (int op : twos) {
+            CHECK.due("what lies below the operands of " + op,
+                Bodies.outcome(0, 100, 0, 0, 9, 0, 0, 4, 0, op, 0, 0, 18, 0, 0, 11, 0, 0), 100);
+        }
         CHECK.due("7 by -2", reckoned(6, 7, -2), -3);
         CHECK.due("left of -7 by 2", reckoned(7, -7, 2), -1);
         CHECK.due("-32768 by -1", reckoned(6, -32768, -1), -32768);

@@ -92,6 +92,11 @@ public final class InterruptTest {
         CHECK.due("nothing is given to one", z.run(caller, 99), 5);
         z.first(what, 0, 6);
         CHECK.due("first values", z.run(caller, 99), 6);
+        z.first(what, 0, 0);
+        Bodies.fill(z, caller, 0, 1, 0, 0, 2, 0, 10, called, 2, 18, 0, 0, 0, 5, 0, 11, 0, 0);
+        z.interrupt(what, 6);
+        CHECK.due("nothing is given to one in the place of a call", z.run(caller, 99), 5);
+        CHECK.due("nothing is given to one in the place of a call", z.told(6), 1);
     }
 
     private static void framesOfTheirs() {
