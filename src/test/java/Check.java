@@ -1,6 +1,11 @@
+import java.util.HashSet;
+import java.util.Set;
+
 /** Compares answers with those that are due, and ends the test with exit code 1 if one was not. */
 final class Check {
     private final String name;
+    private final Set<String> sentences = new HashSet<>();
+    private String sentence = "";
     private int checks = 0;
     private int wrong = 0;
 
@@ -8,11 +13,17 @@ final class Check {
         this.name = name;
     }
 
+    /** The words of the document that the checks from here on are about. */
+    void sentence(String words) {
+        sentence = " [" + words + "]";
+        sentences.add(words);
+    }
+
     void due(String what, long got, long want) {
         checks++;
         if (got != want) {
             wrong++;
-            System.out.println(name + ": " + what + " answered " + got + ", due is " + want);
+            System.out.println(name + sentence + ": " + what + " answered " + got + ", due is " + want);
         }
     }
 
@@ -28,7 +39,8 @@ final class Check {
     }
 
     void finish() {
-        System.out.println(name + ": " + checks + " checks, " + wrong + " wrong");
+        String of = sentences.isEmpty() ? "" : " of " + sentences.size() + " sentences";
+        System.out.println(name + ": " + checks + " checks" + of + ", " + wrong + " wrong");
         if (wrong > 0) {
             System.exit(1);
         }

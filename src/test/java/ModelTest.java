@@ -1,7 +1,7 @@
 /** Long mixed runs of calls, asked of ZRoutines and of the model: every answer must be the same. */
 public final class ModelTest {
     private static final int OBJECTS = 4000;
-    private static final int CALLS = 500;
+    private static final int CALLS = 490;
     private static final int[] WILD = {Integer.MIN_VALUE, -65536, -32769, -1, 16, 26, 61, 65536, Integer.MAX_VALUE};
     // How many numbers each operation takes from its frame's stack, and leaves there.
     private static final int[] NEEDS = {0, 0, 1, 2, 2, 2, 2, 2, 1, 0, 0, 1, 0, 2, 0, 1, 0, 1, 1, 2};
