@@ -292,6 +292,14 @@ public final class BoundaryTest {
             had = n;
         }
         CHECK.due("others", z.user(1, -1) + z.user(3, -1), 0);
+        for (int count = 0; count <= 7; count++) {
+            z.room(3, 7);
+            for (int i = 0; i < count; i++) {
+                put(z, 3, i);
+            }
+            CHECK.due("it had " + count + " of 7", z.room(3, 8), count);
+            CHECK.due("it had none of 8", z.room(3, 0), 0);
+        }
         CHECK.sentence("15 .. 1 on the STACK, if there was room, else 0. - and there is room again behind 16");
         Bodies.fill(z, 0, 16, 2, 0, 11, 0, 0);
         CHECK.due("16", z.run(0, 2), 42);

@@ -8,6 +8,7 @@ public final class FrameBoundaryTest {
         emptyStacks();
         frameNumbers();
         frameNumbersAgain();
+        localsOfEachFrame();
         sixtyInOneFrame();
         sixtyTogether();
         roomBehindClosedFrames();
@@ -72,6 +73,28 @@ public final class FrameBoundaryTest {
         int then = Bodies.make(z, 0, 10, thrown, 0, 0, 10, 0, 5, 0, 0, 10, number, 0, 3, 0, 0, 12, 0, 0, 3, 0, 0,
             11, 0, 0);
         CHECK.due("20 + 2 + 1", z.run(then, 99), 23);
+    }
+
+    private static void localsOfEachFrame() {
+        CHECK.sentence("A CALL of a ROUTINE opens a FRAME: LOCALS have their FIRST VALUES - in each of 25, and its own");
+        ZRoutines z = new ZRoutines();
+        // Each frame but the innermost sets its last local to 5 and adds it to what the call comes to.
+        int r = Bodies.make(z, 15, 1, 0, 0, 8, 11, 0, 0, 5, 0, 2, 14, 0, 1, 0, 0, 0, 1, 0, 4, 0, 0, 10, 0, 1,
+            1, 14, 0, 3, 0, 0, 11, 0, 0, 1, 14, 0, 11, 0, 0);
+        z.first(r, 14, 31);
+        for (int depth = 1; depth <= 25; depth++) {
+            z.give(depth - 1);
+            CHECK.due("of " + depth, z.run(r, 2000), 31 + 5 * (depth - 1));
+        }
+        CHECK.sentence("but the first ones what was GIVEN - in each of 25");
+        int all = z.size(0);
+        z.routine(15);
+        Bodies.fill(z, all, 1, 0, 0, 8, 8, 0, 1, 0, 0, 0, 1, 0, 4, 0, 0, 1, 1, 0, 10, all, 2, 11, 0, 0, 1, 1, 0, 11, 0, 0);
+        for (int depth = 1; depth <= 25; depth++) {
+            z.give(depth - 1);
+            z.give(40 + depth);
+            CHECK.due("of " + depth, z.run(all, 2000), 40 + depth);
+        }
     }
 
     /** A routine with two locals: so many numbers as its first says, then these rows. */
